@@ -115,6 +115,10 @@ public final class CampTest {
         x.put(5, 0, 3);
         x.put(5, 2, 1);
         int[] due = {4, 3, 36, 3, 0, 1, -2, -2};
+        PencilLine none = Check.on(FLOE);
+        none.heap(0, 1, 1);
+        CHECK.due("10 no sort at all", none.lies(0, 3), -2);
+        CHECK.due("10 no tons", none.lies(0, 2), 0);
         for (int what = 0; what < due.length; what++) {
             CHECK.due("10 lies(5, " + what + ")", x.lies(5, what), due[what]);
             CHECK.due("10 lies(4, " + what + ")", x.lies(4, what), what < 6 ? -1 : -2);

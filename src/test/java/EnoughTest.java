@@ -129,6 +129,13 @@ public final class EnoughTest {
         CHECK.due("20 98", x.safe(98), 2);
         CHECK.due("20 143", x.safe(143), 3);
         CHECK.due("20 all", x.safe(1000), 48);
+        // 1 of 10,000 an hour: behind 47 hours less, behind 48 more than 4 of 1,000 and a half
+        PencilLine y = Check.on("floe wide 2 deep 2 people 1 days 1;sort heat gives 1 tons 1 many 1;"
+                + "crack down 1 odds 211 swell 0 warm 0 weight 0;");
+        y.heap(0, 1, 1);
+        y.lay(0);
+        CHECK.holds("20 the last hour counts", y.lost(47) <= 634000000000L && y.lost(48) > 634000000000L);
+        CHECK.due("20 47", y.safe(634), 47);
         CHECK.due("20 below", x.safe(-1), -2);
         CHECK.due("20 above", x.safe(1001), -2);
         CHECK.due("20 no floe", new PencilLine().safe(1), -2);
@@ -312,6 +319,17 @@ public final class EnoughTest {
         CHECK.due("26 nothing", x.gap(), 0);
         CHECK.due("26 no heap", Check.on(CAMP).gap(), 0);
         CHECK.due("26 no floe", new PencilLine().gap(), -2);
+        // only off the crack, not merely beyond it
+        PencilLine off = Check.on("floe wide 4 deep 2 people 2 days 1;"
+                + "crack down 1 odds 0 swell 0 warm 0 weight 99;sort food gives 1 tons 99 many 20;");
+        off.sleep(0, 3, 0, 1);
+        off.sleep(1, 0, 0, 1);
+        off.heap(0, 0, 0);
+        off.put(0, 0, 20);
+        off.heap(1, 1, 0);
+        CHECK.holds("26 off the crack", off.gap() > 0);
+        CHECK.due("25 off the crack", off.betters(5), 1);
+        CHECK.due("25 not beside it", off.lies(0, 0), 2);
         // weight moves off a crack, but the people stay parted
         PencilLine y = Check.on("floe wide 6 deep 2 people 1 days 1;"
                 + "crack down 3 odds 0 swell 0 warm 0 weight 99;sort food gives 1 tons 99 many 6;");
@@ -339,6 +357,17 @@ public final class EnoughTest {
         x.sleep(1, 0, 0, 0);
         x.sleep(0, 0, 0, 0);
         CHECK.due("27 the least of several", x.heaps(), 1);
+        // four pieces, two of the eight on each: only all eight give each its bed
+        PencilLine y = Check.on("floe wide 12 deep 12 people 4 days 1;"
+                + "crack down 6 odds 9 swell 0 warm 0 weight 0;crack along 6 odds 9 swell 0 warm 0 weight 0;"
+                + "sort beds gives 1 tons 1 many 8;");
+        for (int heap = 0; heap < 8; heap++) {
+            y.heap(heap, heap == 7 ? 11 : 0, heap == 6 ? 11 : 0);
+        }
+        y.sleep(0, 11, 0, 1);
+        CHECK.due("27 eight", y.heaps(), 8);
+        y.sleep(0, 0, 11, 1);
+        CHECK.due("27 seven", y.heaps(), 7);
         CHECK.due("27 no heap", Check.on(CAMP).heaps(), -5);
         CHECK.due("27 no floe", new PencilLine().heaps(), -2);
     }

@@ -29,7 +29,9 @@ public final class FloeTest {
         CHECK.due("1 heap to nowhere", x.heap(0, 0, 0), -2);
         CHECK.due("1 heap off", x.heap(0, -1, 0), 0);
         CHECK.due("1 watch as without sees", x.watch(2), 250000000000L);
-        CHECK.due("1 lies", x.lies(7, 2), -1);
+        for (int heap = 0; heap < 8; heap++) {
+            CHECK.due("1 no heap " + heap, x.lies(heap, 0), -1);
+        }
         CHECK.due("1 pass", x.pass(0), -2);
         CHECK.due("1 image", x.back(0), -6);
         CHECK.due("1 struck", x.struck(), 0);
@@ -138,9 +140,9 @@ public final class FloeTest {
         CHECK.due("4 images stay", x.back(1), 0);
         CHECK.due("4 as kept", x.lies(2, 3), 2);
         CHECK.due("4 empty tape", x.floe(), 0);
-        CHECK.due("4 no floe then", x.count(0), 0);
-        CHECK.due("4 no people", x.count(12), 0);
-        CHECK.due("4 no heaps", x.count(7), 0);
+        for (int what = 0; what <= 12; what++) {
+            CHECK.due("4 no floe then, count(" + what + ")", x.count(what), 0);
+        }
         CHECK.due("4 no set", x.pieces(0), -2);
         CHECK.due("4 as without sees", x.watch(1), 500000000000L);
         CHECK.due("4 blanks alone", Check.floe(x, " \n "), 0);
@@ -159,6 +161,26 @@ public final class FloeTest {
         CHECK.due("4 land 20", x.miles(0, 20), 1000000000000L);
         CHECK.due("4 breaks 0", x.alive(1, 0, 0), 1000000000000L);
         CHECK.due("4 crossing 0", x.go(1, 0, 1), 0);
+        // what an earlier floe told is told no more
+        String crack = "crack down 3 odds 10 swell 9 warm 9 weight 0;";
+        PencilLine y = Check.on(FLOE + crack + "sort food gives 1 tons 2 many 3;other day 1 odds 0 breaks 1;"
+                + "sea swell 9 warm 9;shuts 90;fetch 9 across 9;sees 90;drift 90 land 9;breaks 90 crossing 9;");
+        y.sleep(0, 0, 0, 1);
+        y.sleep(1, 5, 3, 3);
+        y.saw(0);
+        y.pass(50);
+        Check.floe(y, FLOE + crack + "sort food gives 1 tons 2 many 3;other day 1 odds 0 breaks 0;");
+        CHECK.due("4 sea 0 0 again", y.odds(0), 10);
+        CHECK.due("4 nothing seen", y.seam(0), 10);
+        y.open(1);
+        CHECK.due("4 shuts 0 again", y.part(0), 0);
+        y.heap(0, 5, 0);
+        CHECK.due("4 fetch 1 across 5 again", y.minutes(1, 0, 0, 0), 15);
+        CHECK.due("4 the others at 0, 0", y.across(1, 0, 1), 1);
+        CHECK.due("4 sees 50 again", y.watch(1), 500000000000L);
+        CHECK.due("4 drift 50 land 20 again", y.miles(1, 18), 500000000000L);
+        CHECK.due("4 breaks 0 again", y.alive(1, 0, 0), 1000000000000L);
+        CHECK.due("4 crossing 0 again", y.go(1, 0, 1), 0);
     }
 
     private static void faultAtStart() {
@@ -222,6 +244,14 @@ public final class FloeTest {
         faultBehind(1, 5, "sees -1;");
         faultBehind(1, 7, "fetch 1;");
         faultBehind(1, 6, "shuts ");
+        faultBehind(1, 5, "sees ;");
+        faultBehind(1, 0, "seesz 1;");
+        faultBehind(1, 0, "z;");
+        faultBehind(1, 4, "sort;");
+        faultBehind(1, 5, "crack;");
+        faultBehind(1, 10, "sort food ;");
+        faultBehind(1, 6, "other odds 1 breaks 1;");
+        faultBehind(1, 18, "crack down 1 odds swell 1 warm 1 weight 1;");
     }
 
     private static void faultTwo() {
@@ -243,6 +273,10 @@ public final class FloeTest {
         faultBehind(2, 16, "sort food gives 0 tons");
         faultBehind(2, 16, "sort food gives 100 tons");
         faultBehind(2, 23, "sort food gives 1 tons 0 many 21");
+        faultBehind(2, 23, "sort food gives 1 tons 100 many 21");
+        faultBehind(2, 18, "crack down 1 odds 501 swell");
+        faultBehind(2, 33, "crack down 1 odds 0 swell 0 warm 100 weight");
+        faultBehind(2, 36, "crack along 1 odds 500 swell 0 warm 100");
         faultBehind(2, 30, "sort food gives 1 tons 1 many 21");
         faultBehind(2, 10, "sea swell 10 warm 1;");
         faultBehind(2, 17, "sea swell 9 warm 10;");

@@ -132,6 +132,12 @@ public final class GoingTest {
         CHECK.due("34 without a floe, wrong", new PencilLine().least(28, 61, -1), -2);
         PencilLine most = Check.on(FLOE + "sort food gives 14 tons 99 many 20;".repeat(6));
         CHECK.due("34 120 units", most.least(28, 60, 0), 11880);
+        String full = FLOE + "sort food gives 99 tons 2 many 16;sort food gives 96 tons 1 many 1;";
+        CHECK.due("34 just 1,680", Check.on(full).least(28, 60, 0), 33);
+        CHECK.due("35 just 1,680", Check.on(full).load(28, 60, 0), 16);
+        CHECK.due("36 just 1,680", Check.on(full).lasts(28, 33), 60);
+        CHECK.due("34 1,679", Check.on(full.replace("96", "95")).least(28, 60, 0), -1);
+        CHECK.due("36 1,679", Check.on(full.replace("96", "95")).lasts(28, 9999), 59);
         PencilLine heavy = Check.on(FLOE + "sort food gives 10 tons 9 many 9;sort food gives 3 tons 3 many 9;");
         CHECK.due("34 more units of less weight", heavy.least(1, 9, 0), 9);
         CHECK.due("34 ten", heavy.least(1, 10, 0), 9);

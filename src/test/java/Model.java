@@ -42,11 +42,11 @@ final class Model {
         m.wide = 2 + random.nextInt(random.nextBoolean() ? 4 : 11);
         m.deep = 2 + random.nextInt(random.nextBoolean() ? 4 : 11);
         m.people = 1 + random.nextInt(random.nextBoolean() ? 5 : 28);
-        m.days = 1 + random.nextInt(random.nextBoolean() ? 4 : 12);
+        m.days = 1 + random.nextInt(random.nextBoolean() ? 2 : 12);
         StringBuilder text = new StringBuilder();
         text.append("floe wide ").append(m.wide).append(" deep ").append(m.deep).append(" people ")
                 .append(m.people).append(" days ").append(m.days).append(";");
-        int cracks = random.nextInt(6);
+        int cracks = random.nextInt(random.nextInt(8) == 0 ? 8 : 5);
         for (int i = 0; i < cracks; i++) {
             int along = random.nextInt(2);
             int[] c = {along, 1 + random.nextInt((along == 1 ? m.deep : m.wide) - 1), random.nextInt(501),
@@ -57,10 +57,10 @@ final class Model {
                     .append(" weight ").append(c[5]).append(c[6] == 1 ? " old;" : ";");
         }
         m.singles(random, text);
-        int sorts = random.nextInt(6);
+        int sorts = random.nextInt(random.nextBoolean() ? 3 : 7);
         for (int i = 0; i < sorts; i++) {
             int[] s = {random.nextInt(4), 1 + random.nextInt(random.nextBoolean() ? 5 : 60),
-                1 + random.nextInt(9), random.nextInt(mostMany + 1)};
+                1 + random.nextInt(random.nextBoolean() ? 9 : 99), random.nextInt(mostMany + 1)};
             m.sorts.add(s);
             text.append("sort ").append(new String[] {"food", "beds", "seats", "heat"}[s[0]]).append(" gives ")
                     .append(s[1]).append(" tons ").append(s[2]).append(" many ").append(s[3]).append(";");

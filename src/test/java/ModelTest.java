@@ -25,7 +25,7 @@ public final class ModelTest {
     }
 
     private static void settle(Random random, Model m, PencilLine x, int seed) {
-        int heaps = random.nextInt(4);
+        int heaps = random.nextInt(random.nextInt(8) == 0 ? 9 : 4);
         for (int i = 0; i < heaps; i++) {
             int heap = random.nextInt(8);
             int[] cell = {random.nextInt(m.wide), random.nextInt(m.deep)};

@@ -68,6 +68,18 @@ public final class SpringTest {
         CHECK.due("44 no floe", new PencilLine().boats(20, 500), -2);
         PencilLine late = Check.on(FLOE + "drift 0 land 39;");
         CHECK.due("44 never nearer", late.boats(38, 1), -1);
+        // within 30 miles more come than go, so the last day holds the most
+        PencilLine half = Check.on(FLOE + "drift 50 land 60;");
+        long[] within = new long[61];
+        for (int day = 0; day <= 60; day++) {
+            for (int miles = 0; miles <= 30; miles++) {
+                within[day] += half.miles(day, miles);
+            }
+        }
+        int thousandths = (int) (within[60] / 1000000000L);
+        CHECK.holds("44 the last day is the most", within[59] < thousandths * 1000000000L);
+        CHECK.due("44 behind day 60", half.boats(30, thousandths), 60);
+        CHECK.due("44 behind none", half.boats(30, thousandths + 1), -1);
         PencilLine last = Check.on(FLOE + "drift 100 land 60;");
         CHECK.due("44 behind 30", last.boats(0, 1000), 30);
         PencilLine sixty = Check.on(FLOE + "drift 51 land 60;");
@@ -161,6 +173,37 @@ public final class SpringTest {
         }
         PencilLine none = Check.on(FLOE);
         CHECK.due("48 no cracks", none.run(1, 99), 0);
+        draws();
+    }
+
+    /** One crack opens below its odds alone, and shuts below 100 times shuts. */
+    private static void draws() {
+        int opened = 0;
+        int shut = 0;
+        for (int seed = 0; opened < 40 || shut < 10; seed++) {
+            long raw = java.math.BigInteger.valueOf(1103515245).multiply(java.math.BigInteger.valueOf(seed * 9973L))
+                    .add(java.math.BigInteger.valueOf(12345)).mod(java.math.BigInteger.valueOf(2147483648L))
+                    .longValue() / 65536;
+            int draw = (int) (raw % 10000);
+            if (draw < 500 && opened < 40) {
+                CHECK.due("48 at its odds", oneCrack(draw, 0).run(seed * 9973, 1), 0);
+                CHECK.due("48 below its odds", oneCrack(draw + 1, 0).run(seed * 9973, 1), 1);
+                opened++;
+            }
+            if (draw % 100 > 97 || draw % 100 == 0) {
+                PencilLine x = oneCrack(500, draw / 100);
+                x.open(1);
+                CHECK.due("48 not below", x.run(seed * 9973, 1), 1);
+                PencilLine y = oneCrack(500, draw / 100 + 1);
+                y.open(1);
+                CHECK.due("48 below", y.run(seed * 9973, 1), 0);
+                shut++;
+            }
+        }
+    }
+
+    private static PencilLine oneCrack(int odds, int shuts) {
+        return Check.on(FLOE + "crack down 1 odds " + odds + " swell 0 warm 0 weight 0;shuts " + shuts + ";");
     }
 
     private static void struck() {
