@@ -1500,16 +1500,16 @@ public final class PencilLine {
 
     /** Parts by sets of cracks, hour by hour, for a camp as it lay when it was looked at. */
     private static final class Ice {
-        private static final byte UNKNOWN = 0;
-        private static final byte ENOUGH = 1;
-        private static final byte SHORT = 2;
+        private static final int UNKNOWN = 0;
+        private static final int ENOUGH = 1;
+        private static final int SHORT = 2;
 
         int sets = 1;
         int drawn;
         private int opened;
         private int shuts;
         private final long[] parts = new long[1 << MOST_CRACKS];
-        private final byte[] known = new byte[1 << MOST_CRACKS];
+        private final int[] known = new int[1 << MOST_CRACKS];
         private final int[] chance = new int[MOST_CRACKS];
         private final int[] groupSize = new int[GROUPS];
         private final int[] groupBeyond = new int[GROUPS];

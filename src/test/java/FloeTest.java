@@ -116,6 +116,9 @@ public final class FloeTest {
         x.row(1, 0, 2);
         x.heap(2, 1, 1);
         x.put(2, 0, 2);
+        x.heap(0, 1, 1);
+        x.heap(7, 1, 1);
+        x.put(0, 0, 1);
         x.open(1);
         x.saw(0);
         x.pass(9);
@@ -131,6 +134,8 @@ public final class FloeTest {
         CHECK.due("4 people stay", x.count(12), 3);
         CHECK.due("4 another", Check.floe(x, "floe wide 3 deep 3 people 2 days 1;"), 1);
         CHECK.due("4 no heap", x.count(7), 0);
+        CHECK.due("4 not the first", x.lies(0, 0), -1);
+        CHECK.due("4 not the last", x.lies(7, 0), -1);
         CHECK.due("4 no set", x.count(8), 0);
         CHECK.due("4 nothing seen", x.count(11), 0);
         CHECK.due("4 all sleep at 0, 0", x.count(12), 2);
@@ -180,7 +185,9 @@ public final class FloeTest {
         CHECK.due("4 sees 50 again", y.watch(1), 500000000000L);
         CHECK.due("4 drift 50 land 20 again", y.miles(1, 18), 500000000000L);
         CHECK.due("4 breaks 0 again", y.alive(1, 0, 0), 1000000000000L);
-        CHECK.due("4 crossing 0 again", y.go(1, 0, 1), 0);
+        Check.floe(y, FLOE + "breaks 9 crossing 9999;");
+        Check.floe(y, FLOE + "other day 1 odds 0 breaks 50;other day 1 odds 0 breaks 49;");
+        CHECK.due("4 crossing 0 again", y.go(10, 1, 3), 2);
     }
 
     private static void faultAtStart() {

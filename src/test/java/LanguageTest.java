@@ -55,6 +55,7 @@ public final class LanguageTest {
         CHECK.due("all of the face is there, but " + due, due.size(), 0);
         for (Field f : PencilLine.class.getDeclaredFields()) {
             CHECK.holds("field " + f, Modifier.isPrivate(f.getModifiers()) != f.getName().equals("NONE"));
+            constant(f);
         }
         Constructor<?>[] constructors = PencilLine.class.getDeclaredConstructors();
         CHECK.due("constructors", constructors.length, 1);
@@ -65,9 +66,16 @@ public final class LanguageTest {
             int fields = 0;
             for (Field f : inside.getDeclaredFields()) {
                 fields += Modifier.isStatic(f.getModifiers()) ? 0 : 1;
+                constant(f);
             }
             CHECK.holds("some twenty fields: " + inside, fields <= 20);
         }
+    }
+
+    private static void constant(Field f) {
+        boolean isConstant = Modifier.isFinal(f.getModifiers())
+                && (f.getType() == int.class || f.getType() == long.class || f.getType() == String.class);
+        CHECK.holds("constant " + f, !Modifier.isStatic(f.getModifiers()) || isConstant);
     }
 
     private static int publicNamesInside() {

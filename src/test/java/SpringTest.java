@@ -408,7 +408,9 @@ public final class SpringTest {
         CHECK.due("54 all 0", x.judge(0), 0);
         x.sleep(0, 0, 0, 0);
         CHECK.due("54 so many", x.judge(0), 60);
-        x.write(0, 1, -1);
+        for (int i = 0; i < 3; i++) {
+            x.write(0, i, -1);
+        }
         CHECK.due("54 in place", x.row(0, 3, 3), 0);
         CHECK.due("54 all 0 again", x.judge(0), 3);
         CHECK.due("54 no numbers", x.row(3, 1, 0), 0);
