@@ -1,6 +1,9 @@
 import java.util.Random;
 
-/** Any call with any arguments in any state answers, and twice the same. */
+/**
+ * Any call with any arguments in any state answers, and twice the same. That is asked beyond an object's
+ * 512th call too: what it answers then is free, but it must answer, and the same calls the same.
+ */
 public final class AnyCallTest {
     private static final Check CHECK = new Check("AnyCallTest");
     private static final int[] EDGES = {-2147483648, -2, -1, 0, 1, 2, 3, 4, 5, 6, 7, 8, 10, 12, 27, 28, 29, 48, 49,

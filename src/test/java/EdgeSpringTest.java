@@ -153,10 +153,11 @@ public final class EdgeSpringTest {
         CHECK.due("44 60 it was", away.boats(60, 1000), 0);
         // day 60 is asked, a 61st is not: the parts within 30 miles grow day by day
         PencilLine half = Check.on(SMALL + "drift 50 land 60;");
-        int most = 0;
-        while (most < 1000 && half.boats(30, most + 1) != -1) {
-            most++;
+        long within = 0;
+        for (int miles = 0; miles <= 30; miles++) {
+            within += half.miles(60, miles);
         }
+        int most = (int) (within / 1000000000L);
         CHECK.due("44 the most is behind day 60", half.boats(30, most), 60);
         CHECK.due("44 more is behind none", half.boats(30, most + 1), -1);
     }

@@ -108,6 +108,23 @@ final class Model {
         }
     }
 
+    /** A new object with all as it is here. */
+    PencilLine settled() {
+        PencilLine x = Check.on(text);
+        for (int heap : heaps.keySet()) {
+            x.heap(heap, heaps.get(heap)[0], heaps.get(heap)[1]);
+            for (int sort = 0; sort < sorts.size(); sort++) {
+                x.put(heap, sort, units[heap][sort]);
+            }
+        }
+        x.sleep(0, 0, 0, 0);
+        for (int group = 0; group < 4; group++) {
+            x.sleep(group, groups[group][0], groups[group][1], groups[group][2]);
+        }
+        x.open(open);
+        return x;
+    }
+
     int sets() {
         return 1 << cracks.size();
     }

@@ -2,7 +2,10 @@ import java.util.List;
 import java.util.Map;
 import java.util.Random;
 
-/** Camps by chance, asked of the program and of the model. */
+/**
+ * Camps by chance, asked of the program and of the model. No object is asked more than 512 times: the model
+ * settles a new one as it is settled itself.
+ */
 public final class ModelTest {
     private static final Check CHECK = new Check("ModelTest");
 
@@ -13,13 +16,13 @@ public final class ModelTest {
             PencilLine x = new PencilLine();
             CHECK.due(seed + " floe " + m.text, Check.floe(x, m.text), m.text.split(";").length);
             settle(random, m, x, seed);
-            ice(m, x, seed);
-            enough(m, x, seed);
-            trials(random, m, x, seed);
-            going(m, x, seed);
-            stores(random, m, x, seed);
-            land(random, m, x, seed);
-            learned(random, m, x, seed);
+            ice(m, seed);
+            enough(m, seed);
+            trials(random, m, m.settled(), seed);
+            going(m, seed);
+            stores(random, m, m.settled(), seed);
+            land(random, m, m.settled(), seed);
+            learned(random, m, m.settled(), seed);
         }
         CHECK.finish();
     }
@@ -63,7 +66,8 @@ public final class ModelTest {
         CHECK.due(seed + " open", x.open(m.open), 0);
     }
 
-    private static void ice(Model m, PencilLine x, int seed) {
+    private static void ice(Model m, int seed) {
+        PencilLine x = m.settled();
         for (int c = 0; c < m.cracks.size(); c++) {
             CHECK.due(seed + " near", x.near(c), m.near(c));
             CHECK.due(seed + " odds", x.odds(c), m.odds(c));
@@ -71,6 +75,7 @@ public final class ModelTest {
         Map<Integer, Long> parts = m.hour(m.start());
         long[][] with = new long[m.cracks.size() + 1][2];
         for (int set = 0; set < m.sets(); set++) {
+            x = set % 16 == 15 ? m.settled() : x;
             int[][] label = m.wander(set);
             int most = 0;
             for (int[] column : label) {
@@ -102,8 +107,10 @@ public final class ModelTest {
         }
     }
 
-    private static void enough(Model m, PencilLine x, int seed) {
+    private static void enough(Model m, int seed) {
+        PencilLine x = m.settled();
         for (int set = 0; set < m.sets(); set++) {
+            x = set % 32 == 31 ? m.settled() : x;
             CHECK.due(seed + " enough", x.enough(set), m.enough(set) ? 1 : 0);
             for (int kind = 0; kind < 4; kind++) {
                 CHECK.due(seed + " lacks", x.lacks(set, kind), m.lacks(set, kind));
@@ -176,7 +183,7 @@ public final class ModelTest {
         }
     }
 
-    private static void going(Model m, PencilLine x, int seed) {
+    private static void going(Model m, int seed) {
         int leave = -1;
         for (int day = m.days; day >= 1; day--) {
             int due = 0;
@@ -185,8 +192,9 @@ public final class ModelTest {
             }
             leave = m.go(day, 0, due) != 0 ? day : leave;
         }
-        CHECK.due(seed + " leave", x.leave(), leave);
+        CHECK.due(seed + " leave", m.settled().leave(), leave);
         for (int day = 1; day <= m.days; day += 1 + m.days / 3) {
+            PencilLine x = m.settled();
             for (int on = 0; on <= m.others.size(); on++) {
                 for (int seen = 0; seen < 1 << m.others.size(); seen++) {
                     boolean can = on == 0 || (seen >> (on - 1) & 1) == 1;
@@ -236,7 +244,7 @@ public final class ModelTest {
         }
         CHECK.due(seed + " lasts", x.lasts(people, tons), lasts);
         for (int i = 0; i < 3; i++) {
-            fetching(m, x, seed, random.nextInt(m.sets()), random.nextInt(4));
+            fetching(m, m.settled(), seed, random.nextInt(m.sets()), random.nextInt(4));
         }
     }
 
