@@ -587,6 +587,23 @@ public final class EdgeCampTest {
         CHECK.due("18 told, none of it, in three pieces", x.lacks(3, 1), 6);
         CHECK.due("18 told, none of it, in one", x.lacks(0, 1), 6);
         CHECK.due("17 not enough", x.enough(0), 0);
+        // groups without people neither lack for themselves nor stand for those who sleep beside them
+        PencilLine y = Check.on("floe wide 2 deep 2 people 4 days 1;crack down 1" + CRACK
+                + "sort heat gives 1 tons 1 many 9;");
+        y.sleep(0, 0, 0, 0);
+        y.sleep(1, 0, 1, 2);
+        y.sleep(2, 1, 0, 0);
+        CHECK.due("18 two beside a group without people", y.lacks(0, 3), 2);
+        CHECK.due("18 a piece where a group without people is", y.lacks(1, 3), 2);
+        y.sleep(3, 1, 1, 1);
+        CHECK.due("18 one more on the other piece", y.lacks(1, 3), 3);
+        CHECK.due("18 three on one", y.lacks(0, 3), 3);
+        y.heap(0, 1, 1);
+        y.put(0, 0, 9);
+        CHECK.due("18 what lies beyond helps not", y.lacks(1, 3), 2);
+        CHECK.due("17 nor is it enough", y.enough(1), 0);
+        y.sleep(1, 0, 1, 0);
+        CHECK.due("17 it is where nobody sleeps", y.enough(1), 1);
     }
 
     // ---- 41 thin, 42 apart ----

@@ -168,6 +168,15 @@ public final class EdgeGoingTest {
         CHECK.due("33 a day behind the last", Check.on(floe + "other day 10 odds 1 breaks 0;").leave(), -1);
         CHECK.due("33 as good", Check.on(floe + "other day 1 odds 1 breaks 5000;").leave(), -1);
         CHECK.due("33 better by one", Check.on(floe + "other day 1 odds 1 breaks 4999;").leave(), 1);
+        // crossing does not pay for one night, but for two
+        String two = "breaks 500 crossing 600;other day 1 odds 0 breaks 100;";
+        CHECK.due("33 one night", Check.on(SMALL + two).leave(), -1);
+        CHECK.due("33 two nights", Check.on("floe wide 2 deep 2 people 1 days 2;" + two).leave(), 1);
+        CHECK.due("33 ten nights", Check.on("floe wide 2 deep 2 people 1 days 10;" + two).leave(), 1);
+        CHECK.due("33 the last but one of ten", Check.on("floe wide 2 deep 2 people 1 days 10;"
+                + two.replace("day 1", "day 9")).leave(), 9);
+        CHECK.due("33 the last of ten", Check.on("floe wide 2 deep 2 people 1 days 10;"
+                + two.replace("day 1", "day 10")).leave(), -1);
         WHOLE.staysNew("33 leave()", -2, x -> x.leave());
     }
 

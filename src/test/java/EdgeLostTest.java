@@ -13,6 +13,7 @@ public final class EdgeLostTest {
         safeRefused();
         safeJust();
         safeLastHour();
+        safeOnePart();
         judgeRefused();
         judgeRows();
         layRefused();
@@ -27,10 +28,13 @@ public final class EdgeLostTest {
         bettersAtMost();
         bettersNone();
         bettersFirst();
+        bettersWithinTheFloe();
         gapOfFive();
         heapsNumbers();
+        heapsByLayingOne();
         whereGroups();
         whereFirst();
+        whereInAnHour();
         watchNumbers();
         watchCut();
         watchesNumbers();
@@ -113,6 +117,24 @@ public final class EdgeLostTest {
         CHECK.holds("20 they lie apart", behind47 <= thousandths * 1000000000L);
         CHECK.due("20 47 hours", x.safe(thousandths), 47);
         CHECK.due("20 48 hours", x.safe(thousandths + 1), 48);
+    }
+
+    /** Only where all three cracks are open is one without a heap: one part of 10^12. */
+    private static void safeOnePart() {
+        PencilLine x = Check.on("floe wide 3 deep 3 people 1 days 1;crack down 1 odds 1 swell 0 warm 0 weight 0;"
+                + "crack down 2 odds 1 swell 0 warm 0 weight 0;crack along 2 odds 1 swell 0 warm 0 weight 0;"
+                + "shuts 100;sort heat gives 1 tons 1 many 3;");
+        x.sleep(0, 1, 1, 1);
+        x.heap(0, 0, 1);
+        x.heap(1, 2, 1);
+        x.heap(2, 1, 2);
+        x.lay(1);
+        CHECK.due("17 all but the set of all three", x.enough(0) + x.enough(3) + x.enough(5) + x.enough(6), 4);
+        CHECK.due("17 the set of all three", x.enough(7), 0);
+        CHECK.due("16 one part", x.with(3, true), 1);
+        CHECK.due("19 one part", x.lost(1), 1);
+        CHECK.due("20 one part is more than 0", x.safe(0), 0);
+        CHECK.due("20 one part is less than 1 of 1,000", x.safe(1), 48);
     }
 
     // ---- 21 judge ----
@@ -443,6 +465,24 @@ public final class EdgeLostTest {
         CHECK.due("25 the first cell that is off it, y", y.lies(0, 1), 0);
     }
 
+    /** All columns lie by the crack: a cell off it would better, but there is none. */
+    private static void bettersWithinTheFloe() {
+        for (String way : new String[] {"down", "along"}) {
+            PencilLine x = Check.on("floe wide 2 deep 2 people 2 days 1;crack " + way + " 1 odds 0 swell 0 warm 0 weight 99;"
+                    + "sort food gives 99 tons 99 many 1;sort beds gives 2 tons 1 many 1;");
+            x.sleep(0, 0, 0, 1);
+            x.sleep(1, 1, 1, 1);
+            x.heap(0, 0, 0);
+            x.put(0, 0, 1);
+            x.heap(1, 1, 1);
+            x.put(1, 1, 1);
+            CHECK.due("19 by its weight", x.lost(1), 9900000000L);
+            CHECK.due("26 no cell is off it", x.gap(), 0);
+            CHECK.due("25 no cell is off it", x.betters(5), 0);
+            CHECK.due("25 it lies where it lay", x.lies(0, 0) + x.lies(0, 1), 0);
+        }
+    }
+
     private static void gapOfFive() {
         PencilLine x = seven();
         CHECK.due("26 five moves of seven", x.gap(), oddsOf(7) - oddsOf(2));
@@ -492,6 +532,20 @@ public final class EdgeLostTest {
         CHECK.due("27 eight alike: the least", y.heaps(), 1);
     }
 
+    /** Heat 0, 1, 0 and then seats: by laying 1 they go on to heap 1, by layings 2 and 3 to heap 0. */
+    private static void heapsByLayingOne() {
+        PencilLine x = Check.on("floe wide 2 deep 2 people 1 days 1;crack down 1 odds 9 swell 0 warm 0 weight 0;"
+                + "sort heat gives 1 tons 1 many 3;sort seats gives 1 tons 1 many 1;");
+        x.sleep(0, 1, 0, 1);
+        x.heap(0, 0, 0);
+        x.heap(1, 1, 0);
+        CHECK.due("23 laying 1", x.trial(1), 0);
+        CHECK.due("23 laying 2", x.trial(2), 900000000L);
+        CHECK.due("23 laying 3", x.trial(3), 900000000L);
+        CHECK.due("27 two, by laying 1", x.heaps(), 2);
+        CHECK.due("24 laying 1", x.best(), 1);
+    }
+
     private static void whereGroups() {
         for (int group : new int[] {-1, 4, 8, LEAST, MOST}) {
             WHOLE.stays("28 where(" + group + ")", -2, x -> x.where(group));
@@ -523,6 +577,30 @@ public final class EdgeLostTest {
         x.sleep(0, 3, 3, 1);
         x.put(0, 0, 0);
         CHECK.due("28 all is lost anywhere", x.where(0), 0);
+    }
+
+    /**
+     * At 1 both cracks must open, by 4,564 each: in an hour that is less than 2,282 at 3, in two it would be
+     * more. The crack between, at 3, is open for ever.
+     */
+    private static void whereInAnHour() {
+        String often = " odds 500 swell 99 warm 99 weight 0";
+        PencilLine x = Check.on("floe wide 5 deep 2 people 1 days 1;sea swell 9 warm 9;"
+                + "crack down 1" + often + " old;crack down 2" + often + " old;crack down 4" + often + ";"
+                + "crack down 3 odds 0 swell 0 warm 0 weight 0;"
+                + "sort heat gives 1 tons 1 many 3;sort beds gives 1 tons 1 many 2;");
+        for (int heap = 0; heap < 5; heap++) {
+            x.heap(heap, heap, 1);
+            x.put(heap, heap == 1 || heap == 4 ? 1 : 0, 1);
+        }
+        x.open(8);
+        x.sleep(0, 1, 0, 1);
+        CHECK.due("19 at 1, in an hour", x.lost(1), ALL / 100000000 * 4564 * 4564);
+        long two = x.lost(2);
+        x.sleep(0, 3, 0, 1);
+        CHECK.due("19 at 3, in an hour", x.lost(1), ALL / 10000 * 2282);
+        CHECK.holds("19 in two hours 3 is the better", x.lost(2) < two);
+        CHECK.due("28 in an hour 1 is", x.where(0), 1);
     }
 
     // ---- 29 watch, 30 watches ----

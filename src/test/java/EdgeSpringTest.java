@@ -16,6 +16,7 @@ public final class EdgeSpringTest {
         boatsRefused();
         boatsJust();
         boatsDays();
+        boatsOnePart();
         sawRefused();
         sawTimes();
         passRefused();
@@ -162,6 +163,23 @@ public final class EdgeSpringTest {
         CHECK.due("44 more is behind none", half.boats(30, most + 1), -1);
     }
 
+    /** Behind day 17 one part of 10^12 is missing to a half: that is not so many, or more. */
+    private static void boatsOnePart() {
+        PencilLine x = Check.on(SMALL + "drift 50 land 17;");
+        long[] within = new long[21];
+        int first = -1;
+        for (int day = 0; day <= 20; day++) {
+            for (int miles = 0; miles <= 7; miles++) {
+                within[day] += x.miles(day, miles);
+            }
+            first = first < 0 && within[day] >= ALL / 2 ? day : first;
+        }
+        CHECK.due("43 one part less than a half", within[17], ALL / 2 - 1);
+        CHECK.holds("44 then it is more", first > 17);
+        CHECK.due("44 not behind day 17", x.boats(7, 500), first);
+        CHECK.due("44 one of 1,000 less is", x.boats(7, 499), 17);
+    }
+
     // ---- 45 saw, 46 pass, 47 seam ----
 
     private static void sawRefused() {
@@ -250,6 +268,13 @@ public final class EdgeSpringTest {
         CHECK.due("47 1,010,000 by 101", x.seam(0), 10000);
         x.pass(1);
         CHECK.due("47 by 102, cut", x.seam(0), 9901);
+        PencilLine once = Check.on(SEVEN);
+        once.saw(0);
+        once.pass(37);
+        CHECK.due("47 10,000 by 137 is one less than 73 of them", once.seam(0), 72);
+        once.saw(0);
+        once.pass(9);
+        CHECK.due("47 20,000 by 146, cut", once.seam(0), 136);
         PencilLine seven = Check.on(SEVEN);
         CHECK.due("47 the seventh", seven.seam(6), 0);
         CHECK.due("47 an eighth", seven.seam(7), -2);

@@ -30,6 +30,7 @@ public final class EdgeTapeTest {
         numbers();
         numbersByTheFloe();
         numbersStand();
+        linesNotTold();
         words();
         linesAtMost();
         linesOnce();
@@ -417,6 +418,42 @@ public final class EdgeTapeTest {
         CHECK.due("4 day 60", x.alive(59, 0, 0), ALL / 100000000);
         x.open(1);
         CHECK.due("4 shuts 100", x.part(1), 0);
+    }
+
+    /** Without the six lines, as they are told without them, also behind a floe that told them. */
+    private static void linesNotTold() {
+        String text = "floe wide 6 deep 4 people 4 days 1;crack down 3 odds 10 swell 99 warm 99 weight 0;"
+                + "sort food gives 1 tons 2 many 3;other day 1 odds 0 breaks 50;other day 1 odds 0 breaks 49;";
+        PencilLine told = Check.on(text + "sea swell 9 warm 9;shuts 90;fetch 9 across 9;sees 90;drift 90 land 9;"
+                + "breaks 90 crossing 9;");
+        told.heap(0, 1, 1);
+        told.open(1);
+        told.saw(0);
+        told.pass(50);
+        told.sleep(0, 2, 2, 0);
+        told.sleep(3, 5, 3, 1);
+        Check.floe(told, text);
+        for (PencilLine x : new PencilLine[] {Check.on(text), told}) {
+            CHECK.due("4 no heap", x.count(7), 0);
+            CHECK.due("4 no crack is open", x.count(8), 0);
+            CHECK.due("4 all sleep", x.count(12), 4);
+            CHECK.due("4 sea 0 0", x.odds(0), 10);
+            CHECK.due("4 nothing was seen or watched", x.seam(0), 10);
+            CHECK.due("4 sees 50", x.watch(1), ALL / 2);
+            CHECK.due("4 drift 50", x.miles(1, 18), ALL / 2);
+            CHECK.due("4 and farther", x.miles(1, 21), ALL / 2);
+            CHECK.due("4 land 20", x.miles(0, 20), ALL);
+            CHECK.due("4 breaks 0", x.alive(1, 0, 0), ALL);
+            CHECK.due("4 crossing 0", x.alive(1, 1, 3), ALL / 10000 * 9951);
+            CHECK.due("4 crossing 0 is no hindrance", x.go(1, 1, 3), 2);
+            x.heap(0, 5, 3);
+            for (int group = 0; group < 4; group++) {
+                CHECK.due("4 fetch 1 across 5, group " + group + " at 0, 0", x.minutes(1, 0, 0, group), 21);
+            }
+            CHECK.due("4 group 0 has all", x.sleep(0, 0, 0, 0), 0);
+            x.open(1);
+            CHECK.due("4 shuts 0", x.part(1), ALL);
+        }
     }
 
     // ---- words ----
