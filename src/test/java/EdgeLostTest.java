@@ -28,12 +28,14 @@ public final class EdgeLostTest {
         bettersAtMost();
         bettersNone();
         bettersFirst();
+        bettersByRows();
         bettersWithinTheFloe();
         gapOfFive();
         heapsNumbers();
         heapsByLayingOne();
         whereGroups();
         whereFirst();
+        whereByRows();
         whereInAnHour();
         watchNumbers();
         watchCut();
@@ -465,6 +467,32 @@ public final class EdgeLostTest {
         CHECK.due("25 the first cell that is off it, y", y.lies(0, 1), 0);
     }
 
+    /**
+     * Both heaps lie where nobody sleeps; two sleep beyond the one crack, two beyond the other. Where one of
+     * the heaps lies with them, only the other two can be cut off: at 2, 0 it is as good as at 0, 2, but
+     * beyond both cracks it weighs on both. 2, 0 is ahead of 0, 2 by rows, and behind it by columns.
+     */
+    private static void bettersByRows() {
+        String heat = "sort heat gives 1 tons 99 many 20;";
+        PencilLine x = Check.on("floe wide 3 deep 3 people 4 days 1;crack down 2 odds 100 swell 0 warm 0 weight 99;"
+                + "crack along 2 odds 100 swell 0 warm 0 weight 99;" + heat + heat);
+        x.sleep(0, 2, 0, 2);
+        x.sleep(1, 0, 2, 2);
+        x.heap(3, 0, 0);
+        x.put(3, 0, 20);
+        x.heap(6, 0, 0);
+        x.put(6, 1, 20);
+        CHECK.due("19 either crack cuts two off", x.lost(1), 19900000000L);
+        CHECK.due("25 one move", x.betters(1), 1);
+        CHECK.due("25 by rows, x", x.lies(3, 0), 2);
+        CHECK.due("25 by rows, y", x.lies(3, 1), 0);
+        CHECK.due("25 one crack alone cuts two off", x.lost(1), 10000000000L);
+        CHECK.due("25 the other heap, to the other two", x.betters(5), 1);
+        CHECK.due("25 it lies at x", x.lies(6, 0), 0);
+        CHECK.due("25 it lies at y", x.lies(6, 1), 2);
+        CHECK.due("25 none is cut off", x.lost(1), 0);
+    }
+
     /** All columns lie by the crack: a cell off it would better, but there is none. */
     private static void bettersWithinTheFloe() {
         for (String way : new String[] {"down", "along"}) {
@@ -577,6 +605,26 @@ public final class EdgeLostTest {
         x.sleep(0, 3, 3, 1);
         x.put(0, 0, 0);
         CHECK.due("28 all is lost anywhere", x.where(0), 0);
+    }
+
+    /** Heat beyond the one crack and beyond the other: 5, 0 is ahead of 0, 3 by rows, behind it by columns. */
+    private static void whereByRows() {
+        PencilLine x = Check.on("floe wide 6 deep 6 people 1 days 1;crack down 5 odds 9 swell 0 warm 0 weight 0;"
+                + "crack along 3 odds 9 swell 0 warm 0 weight 0;sort heat gives 1 tons 1 many 2;");
+        x.heap(0, 5, 2);
+        x.put(0, 0, 1);
+        x.heap(1, 4, 3);
+        x.put(1, 0, 1);
+        for (int group = 0; group < 4; group++) {
+            x.sleep(0, 0, 0, 0);
+            x.sleep(group, 5, 5, 1);
+            CHECK.due("28 by rows, group " + group, x.where(group), 5);
+            x.sleep(group, 0, 0, 0);
+        }
+        x.sleep(0, 0, 3, 1);
+        CHECK.due("28 also where it sleeps as well now", x.where(0), 5);
+        x.put(0, 0, 0);
+        CHECK.due("28 the heap in the other row alone", x.where(0), 36);
     }
 
     /**
