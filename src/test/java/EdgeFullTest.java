@@ -15,6 +15,8 @@ public final class EdgeFullTest {
         heapsOff();
         layingsTakeUpAll();
         floeAnew();
+        floeOfLess();
+        floeOfLessGoing();
         imagesOfAll();
         imagesApart();
         imageOfLess();
@@ -33,7 +35,7 @@ public final class EdgeFullTest {
                     .append(30 + sort).append(" many ").append(15 + sort).append(";");
         }
         for (int other = 0; other < 4; other++) {
-            text.append("other day ").append(50 + other).append(" odds ").append(60 + other).append(" breaks ")
+            text.append("other day ").append(1 + 2 * other).append(" odds ").append(60 + other).append(" breaks ")
                     .append(other).append(";");
         }
         return text.append("sea swell 1 warm 2;shuts 3;fetch 4 across 5;sees 6;drift 7 land 8;breaks 9 crossing 10;")
@@ -183,6 +185,87 @@ public final class EdgeFullTest {
             CHECK.due("4 group 0 alone sleeps", y.sleep(group, 11, 11, 0), 28);
         }
         CHECK.due("4 it has all", y.sleep(0, 0, 0, 0), 0);
+    }
+
+    private static String[] less() {
+        String floe = "floe wide 5 deep 4 people 9 days 7;";
+        String crack = "crack down 2 odds 400 swell 1 warm 1 weight 50;";
+        String sort = "sort beds gives 4 tons 90 many 6;";
+        String other = "other day 2 odds 30 breaks 40;";
+        return new String[] {floe, floe + crack, floe + sort, floe + other, floe + crack + sort,
+            floe + crack + sort + other, floe + crack.repeat(6) + sort.repeat(5) + other.repeat(3)};
+    }
+
+    /** A floe of less in place of the fullest: nothing of that one's lines is left. */
+    private static void floeOfLess() {
+        for (String text : less()) {
+            PencilLine x = full();
+            Check.floe(x, text);
+            lie(x);
+            PencilLine y = Check.on(text);
+            lie(y);
+            same("4 in place of the fullest: " + text, told(x), told(y));
+        }
+    }
+
+    private static void lie(PencilLine x) {
+        x.heap(1, 1, 1);
+        x.put(1, 0, 2);
+        x.heap(6, 4, 3);
+        x.put(6, 0, 4);
+        x.sleep(2, 4, 0, 0);
+    }
+
+    /** Likewise what is worked from all lines: loads, fetchings, layings, moves, other floes. */
+    private static void floeOfLessGoing() {
+        for (String text : less()) {
+            PencilLine x = full();
+            x.alive(1, 0, 0);
+            x.least(28, 60, -1);
+            Check.floe(x, text);
+            lie(x);
+            PencilLine y = Check.on(text);
+            lie(y);
+            same("4 what is worked, in place of the fullest: " + text, worked(x), worked(y));
+        }
+    }
+
+    private static List<Long> worked(PencilLine x) {
+        List<Long> told = new ArrayList<>();
+        for (int kind = -1; kind < 4; kind++) {
+            told.add((long) x.least(3, 2, kind));
+            told.add((long) x.least(20, 9, kind));
+        }
+        for (int sort = 0; sort < 6; sort++) {
+            told.add((long) x.load(3, 2, sort));
+            told.add((long) x.fetched(1, 0, 6, sort));
+        }
+        for (int tons = 0; tons < 800; tons += 90) {
+            told.add((long) x.lasts(3, tons));
+        }
+        for (int set = 0; set < 4; set++) {
+            told.add((long) x.fetch(set, 0));
+            told.add((long) x.enough(set));
+        }
+        told.add((long) x.leave());
+        for (int day = 1; day < 8; day++) {
+            told.add(x.alive(day, 0, 0));
+            told.add(x.alive(day, 1, 1));
+            told.add((long) x.go(day, 0, 1));
+        }
+        told.add(x.lost(5));
+        for (int laying = 0; laying < 4; laying++) {
+            told.add(x.trial(laying));
+        }
+        told.add((long) x.heaps());
+        told.add((long) x.where(0));
+        told.add(x.gap());
+        told.add((long) x.run(3, 4));
+        told.add((long) x.springs(3, 4, 5));
+        told.add((long) x.apart(1, 1));
+        told.add((long) x.lay(3));
+        told.add((long) x.lies(1, 2));
+        return told;
     }
 
     private static void imagesOfAll() {

@@ -24,6 +24,7 @@ public final class EdgeLostTest {
         layMany();
         triesChangeNothing();
         bestOfSeveral();
+        trialsOfAllEight();
         bettersRefused();
         bettersAtMost();
         bettersNone();
@@ -364,6 +365,23 @@ public final class EdgeLostTest {
             CHECK.due("23 laying " + laying + " loses nothing", y.trial(laying), 0);
         }
         CHECK.due("24 nothing was laid", y.lies(0, 2) + y.lies(1, 2), 0);
+    }
+
+    /** The last of eight heaps alone lies beyond the crack, where one sleeps: layings that reach it do. */
+    private static void trialsOfAllEight() {
+        PencilLine x = Check.on("floe wide 2 deep 2 people 1 days 1;crack down 1 odds 9 swell 0 warm 0 weight 0;"
+                + "sort heat gives 1 tons 1 many 8;sort seats gives 1 tons 1 many 8;");
+        for (int heap = 0; heap < 8; heap++) {
+            x.heap(heap, heap / 7, 0);
+        }
+        x.sleep(0, 1, 1, 1);
+        CHECK.due("24 eight heaps", x.best(), 1);
+        long[] due = {900000000L, 0, 0, 0};
+        for (int laying = 0; laying < 4; laying++) {
+            CHECK.due("23 eight heaps, laying " + laying, x.trial(laying), due[laying]);
+            CHECK.due("22 eight heaps, laying " + laying, x.lay(laying), laying == 0 ? 1 : 8);
+            CHECK.due("19 eight heaps, laying " + laying, x.lost(1), due[laying]);
+        }
     }
 
     // ---- 25 betters, 26 gap ----

@@ -161,6 +161,11 @@ public final class EdgeSpringTest {
         int most = (int) (within / 1000000000L);
         CHECK.due("44 the most is behind day 60", half.boats(30, most), 60);
         CHECK.due("44 more is behind none", half.boats(30, most + 1), -1);
+        // 0.8507 behind day 59, 0.8603 behind day 60, 0.8747 behind a 61st
+        PencilLine late = Check.on(SMALL + "drift 50 land 20;");
+        CHECK.due("44 day 60 is the last", late.boats(0, 860), 60);
+        CHECK.due("44 behind a 61st is behind none", late.boats(0, 861), -1);
+        CHECK.due("44 nor behind it a little more", late.boats(0, 874), -1);
     }
 
     /** Behind day 17 one part of 10^12 is missing to a half: that is not so many, or more. */

@@ -491,11 +491,22 @@ public final class EdgeTapeTest {
                     faulty(1, place + at, front);
                 }
             }
+            leftOutOrTwice(place, ahead, line, at, token);
             at += token.length() + 1;
         }
         faulty(1, place + line.length() - 1, ahead + line.substring(0, line.length() - 1));
         faulty(1, place + line.length() - 1, ahead + line.substring(0, line.length() - 1) + "#");
         faulty(1, place + line.length(), ahead + line + ";");
+    }
+
+    /** A word or a number left out: what follows can't stand there. Twice: the second can't. */
+    private static void leftOutOrTwice(int place, String ahead, String line, int at, String token) {
+        String front = ahead + line.substring(0, at);
+        String back = line.substring(at + token.length());
+        if (!token.equals("old")) {
+            faulty(1, place + at + (back.charAt(0) == ' ' ? 1 : 0), front + back);
+        }
+        faulty(1, place + at + token.length() + 1, front + token + " " + token + back);
     }
 
     // ---- as many lines as there may be ----
