@@ -14,6 +14,7 @@ public final class EdgeLostTest {
         safeJust();
         safeLastHour();
         safeOnePart();
+        safeOnePartMore();
         judgeRefused();
         judgeRows();
         layRefused();
@@ -138,6 +139,22 @@ public final class EdgeLostTest {
         CHECK.due("19 one part", x.lost(1), 1);
         CHECK.due("20 one part is more than 0", x.safe(0), 0);
         CHECK.due("20 one part is less than 1 of 1,000", x.safe(1), 48);
+    }
+
+    /** A tenth is cut off at 3; of what is left one part of 10^12 has all the other three open. */
+    private static void safeOnePartMore() {
+        PencilLine x = Check.on("floe wide 4 deep 3 people 2 days 1;crack down 3 odds 500 swell 0 warm 0 weight 0 old;"
+                + "crack down 1 odds 2 swell 0 warm 0 weight 0;crack down 2 odds 1 swell 0 warm 0 weight 0;"
+                + "crack along 2 odds 1 swell 0 warm 0 weight 0;sort heat gives 2 tons 1 many 3;");
+        x.sleep(0, 1, 1, 1);
+        x.sleep(1, 3, 1, 1);
+        x.heap(0, 0, 1);
+        x.heap(1, 2, 1);
+        x.heap(2, 1, 2);
+        x.lay(1);
+        CHECK.due("19 one part more than a tenth", x.lost(1), ALL / 10 + 1);
+        CHECK.due("20 that is more than 100", x.safe(100), 0);
+        CHECK.due("20 and less than 101", x.safe(101), 1);
     }
 
     // ---- 21 judge ----
